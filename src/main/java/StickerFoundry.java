@@ -166,7 +166,7 @@ public final class StickerFoundry {
             throw new IllegalArgumentException("the limit is not 0 .. 4");
         }
         fillBall();
-        int least = leastFrom(table, MOST_LIMIT - HALF_LIMIT);
+        int least = leastFrom(ball, moveRows, 2 * turnCount, table, MOST_LIMIT - HALF_LIMIT);
         return least <= limit ? least : NONE;
     }
 
@@ -249,13 +249,13 @@ public final class StickerFoundry {
     }
 
     /** The distance of a row, if so many moves more lead into the ball; NONE if not. */
-    private int leastFrom(long row, int more) {
+    private static int leastFrom(Ball ball, long[] moveRows, int moveCount, long row, int more) {
         int least = ball.farOf(row);
         if (least != NONE || more <= 0) {
             return least;
         }
-        for (int m = 0; m < 2 * turnCount; m++) {
-            int next = leastFrom(Rows.then(row, moveRows[m]), more - 1);
+        for (int m = 0; m < moveCount; m++) {
+            int next = leastFrom(ball, moveRows, moveCount, Rows.then(row, moveRows[m]), more - 1);
             if (next != NONE && (least == NONE || next + 1 < least)) {
                 least = next + 1;
             }

@@ -207,12 +207,13 @@ public final class PromiseTest {
     }
 
     private static void promise7Image() {
-        StickerFoundry x = Foundries.puzzle(12, "(0 11 5)(2 3)", "(1 2)");
+        StickerFoundry x = Foundries.puzzle(12, "(0 11 5)(2 3)", "(1 2 7)");
         int[] due = {11, 1, 3, 2, 4, 0, 6, 7, 8, 9, 10, 5};
         for (int p = 0; p < 12; p++) {
             Expect.same("image(0, " + p + ")", x.image(0, p), due[p]);
         }
         Expect.same("image(1, 1)", x.image(1, 1), 2);
+        Expect.same("image(1, 7)", x.image(1, 7), 1);
         x.move(0);
         Expect.same("not the arrangement's", x.image(0, 0), 11);
         for (int bad : new int[] {-1, 2, 5, LEAST, MOST}) {
@@ -415,6 +416,8 @@ public final class PromiseTest {
         blocks(parts, 6, -1, -1, -1, -1, -1, 5, 5);
         blocks(parts, 0, 0, -1, -1, -1, -1, -1, -1);
         blocks(Foundries.puzzle(12, M12), 11, 0, 0, 0, 0, 0, 0, 0, 0, 0, 0, 0, 0);
+        StickerFoundry third = Foundries.puzzle(9, "(0 1)", "(2)", "(3 4 5 6 7 8)");
+        blocks(third, 5, -1, -1, -1, 3, 4, 3, 4, 3, 4);
         parts.swap(0, 1);
         blocks(parts, 3, -1, 1, 2, 1, 2, -1, -1);
         for (int bad : new int[] {-1, 7, LEAST, MOST}) {
@@ -532,6 +535,13 @@ public final class PromiseTest {
                 x.move(moves[d]);
             }
         }
+        StickerFoundry y = Foundries.puzzle(12, "(0 1 2)", "(2 3 4 5 6 7 8 9 10 11)");
+        y.move(2);
+        y.move(2);
+        y.move(0);
+        Expect.same("behind a longer way", y.within(4), 3);
+        Expect.same("behind a longer way", y.within(3), 3);
+        Expect.same("behind a longer way", y.within(2), StickerFoundry.NONE);
         StickerFoundry small = Foundries.puzzle(8, "(0 1 2 3 4 5 6 7)");
         int[] due = {0, 1, 2, 3, 4, 3, 2, 1};
         for (int r = 0; r < 8; r++) {
@@ -549,18 +559,20 @@ public final class PromiseTest {
     }
 
     private static void promise24Write() {
-        StickerFoundry x = Foundries.puzzle(12, "(11 10)(3 1 2)", "(4)");
+        StickerFoundry x = Foundries.puzzle(12, "(11 10)(3 1 2)", "(4)", "(5 9 7)");
         Expect.same("solved", x.write(StickerFoundry.NONE), 0);
         Expect.same("text", Foundries.text(x), "");
         Expect.same("turn 0", x.write(0), 14);
         Expect.same("text", Foundries.text(x), "(1 2 3)(10 11)");
-        Expect.same("it can be read", x.turn(), 2);
+        Expect.same("it can be read", x.turn(), 3);
+        Expect.same("turn 2", x.write(2), 7);
+        Expect.same("text", Foundries.text(x), "(5 9 7)");
         Expect.same("idle turn", x.write(1), 0);
         Expect.same("text", Foundries.text(x), "");
         x.move(1);
         Expect.same("arrangement", x.write(StickerFoundry.NONE), 14);
         Expect.same("text", Foundries.text(x), "(1 3 2)(10 11)");
-        for (int bad : new int[] {-2, 3, 5, LEAST, MOST}) {
+        for (int bad : new int[] {-2, 4, 5, LEAST, MOST}) {
             Expect.raises("write(" + bad + ")", BAD_INDEX, () -> x.write(bad));
         }
         Expect.same("as before", Foundries.text(x), "(1 3 2)(10 11)");
