@@ -2,8 +2,14 @@
 final class Expect {
     private static int looked = 0;
     private static int wrong = 0;
+    private static String sentence = "";
 
     private Expect() {
+    }
+
+    /** The sentence of the document that what comes next is about; it is told with what is wrong. */
+    static void about(String words) {
+        sentence = "[" + words + "] ";
     }
 
     static void same(String what, long got, long due) {
@@ -53,7 +59,7 @@ final class Expect {
     private static void tell(String line) {
         wrong++;
         if (wrong <= 50) {
-            System.out.println(line);
+            System.out.println(sentence + line);
         }
     }
 }

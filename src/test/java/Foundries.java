@@ -36,8 +36,10 @@ final class Foundries {
 
     static String text(StickerFoundry foundry) {
         StringBuilder text = new StringBuilder();
-        for (int i = 0; foundry.character(i) != 0 && i < 1000; i++) {
-            text.append((char) foundry.character(i));
+        int sign = foundry.character(0);
+        for (int i = 1; sign != 0 && i < 1000; i++) {
+            text.append((char) sign);
+            sign = foundry.character(i);
         }
         return text.toString();
     }

@@ -3,8 +3,7 @@ import java.util.Random;
 
 /** Puzzles with too many arrangements for the model to list. */
 public final class LargePuzzleTest {
-    private static final String[] M12 = {"(0 1 2 3 4 5 6 7 8 9 10)", "(2 6 10 7)(3 9 4 5)",
-        "(0 11)(1 10)(2 5)(3 7)(4 8)(6 9)"};
+    private static final String[] M12 = Puzzles.M12;
 
     public static void main(String[] args) {
         ranksInOrder(95040, 1, 12, M12);

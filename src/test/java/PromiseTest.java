@@ -2,18 +2,15 @@ import java.util.NoSuchElementException;
 
 /** Each promise of the document: ordinary inputs, the edges that it names, wrong inputs. */
 public final class PromiseTest {
-    private static final int LEAST = Integer.MIN_VALUE;
-    private static final int MOST = Integer.MAX_VALUE;
+    private static final int LEAST = Puzzles.LEAST;
+    private static final int MOST = Puzzles.MOST;
     private static final Class<?> BAD_INDEX = IndexOutOfBoundsException.class;
     private static final Class<?> BAD_ARGUMENT = IllegalArgumentException.class;
     private static final Class<?> BAD_STATE = IllegalStateException.class;
     private static final Class<?> BAD_OPERATION = UnsupportedOperationException.class;
 
-    private static final String[] S12 = {"(0 1 2 3 4 5 6 7 8 9 10 11)", "(0 1)"};
-    private static final String[] M12 = {"(0 1 2 3 4 5 6 7 8 9 10)", "(2 6 10 7)(3 9 4 5)",
-        "(0 11)(1 10)(2 5)(3 7)(4 8)(6 9)"};
-    /** The group of order 504 on the nine points of the line over eight elements. */
-    private static final String[] LINE8 = {"(0 1)(2 3)(4 5)(6 7)", "(1 2 4 3 6 7 5)", "(0 8)(2 5)(3 6)(4 7)"};
+    private static final String[] S12 = Puzzles.S12;
+    private static final String[] M12 = Puzzles.M12;
 
     public static void main(String[] args) {
         promise1NewObject();
@@ -293,7 +290,7 @@ public final class PromiseTest {
         Expect.same("A12", Foundries.puzzle(12, "(0 1 2)", "(1 2 3 4 5 6 7 8 9 10 11)").order(), 239500800L);
         Expect.same("M12", Foundries.puzzle(12, M12).order(), 95040);
         Expect.same("M11", Foundries.puzzle(12, M12[0], M12[1]).order(), 7920);
-        Expect.same("line", Foundries.puzzle(9, LINE8).order(), 504);
+        Expect.same("line", Foundries.puzzle(9, Puzzles.LINE8).order(), 504);
         Expect.same("3 4 5", Foundries.puzzle(12, "(0 1 2)(3 4 5 6)(7 8 9 10 11)").order(), 60);
         Expect.same("six pairs", Foundries.puzzle(12, "(0 1)", "(2 3)", "(4 5)", "(6 7)", "(8 9)(10 11)").order(), 32);
         Expect.same("pairs in a ring", Foundries.puzzle(12, "(0 6)", "(0 1 2 3 4 5)(6 7 8 9 10 11)").order(), 384);
@@ -426,26 +423,17 @@ public final class PromiseTest {
         }
     }
 
-    /** S6 beside a pair has 1440 arrangements; the line with its third power has 1512. */
-    private static StickerFoundry mostThatIsTold() {
-        return Foundries.puzzle(8, "(0 1 2 3 4 5)", "(0 1)", "(6 7)");
-    }
-
-    private static StickerFoundry leastThatIsNot() {
-        return Foundries.puzzle(9, LINE8[0], LINE8[1], LINE8[2], "(2 4 6)(3 5 7)");
-    }
-
     private static void promise19Diameter() {
         Expect.same("one cycle", Foundries.puzzle(7, "(0 1 2 3 4 5 6)").diameter(), 3);
         Expect.same("3 4 5", Foundries.puzzle(12, "(0 1 2)(3 4 5 6)(7 8 9 10 11)").diameter(), 30);
         Expect.same("idle turns", Foundries.puzzle(5, "", "(2)").diameter(), 0);
         Expect.same("120 by two mirrors", Foundries.puzzle(12, "(0 1)(3 4)(5 6)(7 8)(9 10)",
             "(1 2)(4 5)(8 9)(10 11)").diameter(), 60);
-        Expect.same("order 1440", mostThatIsTold().order(), 1440);
+        Expect.same("order 1440", Puzzles.mostThatIsTold().order(), 1440);
         Expect.same("S6", Foundries.puzzle(6, "(0 1 2 3 4 5)", "(0 1)").diameter(), 15);
-        Expect.same("S6 beside a pair", mostThatIsTold().diameter(), 16);
-        Expect.same("order 1512", leastThatIsNot().order(), 1512);
-        Expect.raises("order 1512", BAD_OPERATION, () -> leastThatIsNot().diameter());
+        Expect.same("S6 beside a pair", Puzzles.mostThatIsTold().diameter(), 16);
+        Expect.same("order 1512", Puzzles.leastThatIsNot().order(), 1512);
+        Expect.raises("order 1512", BAD_OPERATION, () -> Puzzles.leastThatIsNot().diameter());
         StickerFoundry x = Foundries.puzzle(4, "(0 1 2 3)");
         x.swap(0, 1);
         Expect.same("whatever the arrangement", x.diameter(), 2);
@@ -462,14 +450,14 @@ public final class PromiseTest {
         for (int d : new int[] {-1, LEAST, MOST}) {
             Expect.same("atDistance(" + d + ")", x.atDistance(d), 0);
         }
-        StickerFoundry most = mostThatIsTold();
+        StickerFoundry most = Puzzles.mostThatIsTold();
         long sum = 0;
         for (int d = 0; d <= most.diameter(); d++) {
             sum += most.atDistance(d);
         }
         Expect.same("all", sum, 1440);
-        Expect.raises("order 1512", BAD_OPERATION, () -> leastThatIsNot().atDistance(0));
-        Expect.raises("below 0 too", BAD_OPERATION, () -> leastThatIsNot().atDistance(-1));
+        Expect.raises("order 1512", BAD_OPERATION, () -> Puzzles.leastThatIsNot().atDistance(0));
+        Expect.raises("below 0 too", BAD_OPERATION, () -> Puzzles.leastThatIsNot().atDistance(-1));
     }
 
     private static void promise21Solve() {
@@ -486,7 +474,7 @@ public final class PromiseTest {
         x.swap(0, 1);
         Expect.raises("not reachable", BAD_STATE, x::solve);
         Expect.same("the last solution stays", Foundries.solution(x), "1 1 ");
-        StickerFoundry big = leastThatIsNot();
+        StickerFoundry big = Puzzles.leastThatIsNot();
         Expect.raises("order 1512", BAD_OPERATION, big::solve);
         big.swap(0, 1);
         Expect.raises("and not reachable", BAD_OPERATION, big::solve);
@@ -495,7 +483,7 @@ public final class PromiseTest {
         two.move(2);
         Expect.same("either first", two.solve(), 2);
         Expect.same("the lesser first", Foundries.solution(two), "0 2 ");
-        StickerFoundry most = mostThatIsTold();
+        StickerFoundry most = Puzzles.mostThatIsTold();
         most.unrank(1439);
         int far = most.solve();
         for (int i = 0; i < far; i++) {
