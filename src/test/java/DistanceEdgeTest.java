@@ -20,6 +20,7 @@ public final class DistanceEdgeTest {
         solutionTillTheNext();
         withinLimits();
         withinEachDistance();
+        withinByEachMove();
         withinNotReachable();
         withinWithoutTurns();
         Expect.finish();
@@ -246,6 +247,31 @@ public final class DistanceEdgeTest {
                 }
                 x.move(0);
             }
+        }
+    }
+
+    /** Rows of four moves, by turn of two kinds, are as far as the model says: mostly four. */
+    private static void withinByEachMove() {
+        Expect.about("Promise 23: The least number of moves that lead from the arrangement to the solved one");
+        String[] turns = {"(0 1 2 3 4 5 6 7 8 9 10)", "(11 9 7 5 3 1)(10 8 6)", "(2 4 8 5 10 9 7 3 6)", "(0 11)(1 6 2)",
+            "(3 0 4 1 5 9 2 6)"};
+        StickerFoundry x = Foundries.puzzle(12, turns);
+        Model model = new Model();
+        model.stickers(12);
+        for (String turn : turns) {
+            model.text = turn;
+            model.turn();
+        }
+        for (int row = 0; row < 100; row++) {
+            x.reset();
+            model.reset();
+            for (int i = 0; i < 4; i++) {
+                int move = i % 2 == 0 ? row / 10 : row % 10;
+                x.move(move);
+                model.move(move);
+                Expect.same("row " + row + ", within(" + i + ")", x.within(i), model.within(i));
+            }
+            Expect.same("row " + row + ", within(4)", x.within(4), model.within(4));
         }
     }
 

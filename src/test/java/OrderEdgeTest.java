@@ -1,4 +1,5 @@
 import java.util.NoSuchElementException;
+import java.util.function.BiConsumer;
 
 /** Order, orbits, ranks and classes: each sentence of the document that names a boundary case of them. */
 public final class OrderEdgeTest {
@@ -29,6 +30,18 @@ public final class OrderEdgeTest {
 
     private static void refusesIndex(String name, Runnable call) {
         Expect.raises(name, IndexOutOfBoundsException.class, call);
+    }
+
+    /** A call of two numbers takes each pair below n; it refuses a number that is not, as one or as both. */
+    private static void refusesOutside(int n, BiConsumer<Integer, Integer> call) {
+        for (int good : new int[] {0, n - 1}) {
+            Expect.same(good + " twice", Expect.raisedBy(() -> call.accept(good, good)), "nothing");
+            for (int bad : new int[] {-1, n, n + 1, 12, Puzzles.LEAST, Puzzles.MOST}) {
+                refusesIndex(n + " stickers, " + bad + " and " + good, () -> call.accept(bad, good));
+                refusesIndex(n + " stickers, " + good + " and " + bad, () -> call.accept(good, bad));
+                refusesIndex(n + " stickers, " + bad + " twice", () -> call.accept(bad, bad));
+            }
+        }
     }
 
     private static void orderOfNone() {
@@ -93,13 +106,7 @@ public final class OrderEdgeTest {
         Expect.about("Promise 14, Terms: Numbers of stickers and places that there are not are refused");
         for (int n = 1; n <= 12; n++) {
             StickerFoundry x = Puzzles.all(n);
-            int last = n - 1;
-            for (int bad : new int[] {-1, n, n + 1, 12, Puzzles.LEAST, Puzzles.MOST}) {
-                refusesIndex(n + " stickers, inOrbit(" + bad + ", 0)", () -> x.inOrbit(bad, 0));
-                refusesIndex(n + " stickers, inOrbit(0, " + bad + ")", () -> x.inOrbit(0, bad));
-                refusesIndex(n + " stickers, inOrbit(last, " + bad + ")", () -> x.inOrbit(last, bad));
-                refusesIndex(n + " stickers, both " + bad, () -> x.inOrbit(bad, bad));
-            }
+            refusesOutside(n, (k, p) -> x.inOrbit(k, p));
         }
     }
 
@@ -255,13 +262,7 @@ public final class OrderEdgeTest {
         Expect.about("Promise 18, Terms: Numbers of stickers that there are not are refused");
         for (int n = 1; n <= 12; n++) {
             StickerFoundry x = Puzzles.all(n);
-            int last = n - 1;
-            for (int bad : new int[] {-1, n, n + 1, 12, Puzzles.LEAST, Puzzles.MOST}) {
-                refusesIndex(n + " stickers, block(" + bad + ", 0)", () -> x.block(bad, 0));
-                refusesIndex(n + " stickers, block(0, " + bad + ")", () -> x.block(0, bad));
-                refusesIndex(n + " stickers, block(last, " + bad + ")", () -> x.block(last, bad));
-                refusesIndex(n + " stickers, both " + bad, () -> x.block(bad, bad));
-            }
+            refusesOutside(n, (j, s) -> x.block(j, s));
         }
     }
 }

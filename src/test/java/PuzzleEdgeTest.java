@@ -17,6 +17,7 @@ public final class PuzzleEdgeTest {
         swapWhatTurnsCannot();
         resetFromAny();
         placeNumbers();
+        lastOf512Calls();
         Expect.finish();
     }
 
@@ -226,5 +227,23 @@ public final class PuzzleEdgeTest {
         StickerFoundry x = Foundries.puzzle(12);
         x.stickers(4);
         takesBelow(4, "of fewer stickers, place", x::place);
+    }
+
+    private static void lastOf512Calls() {
+        Expect.about("What it is: An object is used for at most 512 calls after it has been made");
+        StickerFoundry x = new StickerFoundry();
+        x.stickers(12);
+        int calls = 1;
+        for (String part : new String[] {"(0 1 2 3", " 4 5 6 7", " 8 9 10 ", "11)"}) {
+            x.type(Foundries.packed(part), part.length());
+            calls++;
+        }
+        x.turn();
+        int moves = 0;
+        for (calls++; calls < 511; calls++) {
+            x.move(0);
+            moves++;
+        }
+        Expect.same("the 512th", x.place(0), moves % 12);
     }
 }
